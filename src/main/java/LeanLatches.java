@@ -366,7 +366,7 @@ public final class LeanLatches {
             return NOT_SO;
         }
         paths.lay(door, state.sealed);
-        return paths.eased(state.row, row, state.sealed);
+        return paths.eased(state.row, row, state.sealed, door.leaning);
     }
 
     public int game(int what) {
@@ -816,11 +816,7 @@ public final class LeanLatches {
         }
 
         private boolean rustLine() {
-            if (rustTold) {
-                return fails(TOLD_ALREADY);
-            }
-            tape.advance();
-            if (!numberTo(100)) {
+            if (!once(rustTold, 100)) {
                 return false;
             }
             rustTold = true;
@@ -830,17 +826,21 @@ public final class LeanLatches {
         }
 
         private boolean seedLine() {
-            if (seedTold) {
-                return fails(TOLD_ALREADY);
-            }
-            tape.advance();
-            if (!numberTo(99999)) {
+            if (!once(seedTold, 99999)) {
                 return false;
             }
             seedTold = true;
             door.seed = tape.value;
             tape.advance();
             return true;
+        }
+
+        private boolean once(boolean told, int most) {
+            if (told) {
+                return fails(TOLD_ALREADY);
+            }
+            tape.advance();
+            return numberTo(most);
         }
 
         private boolean lawLine() {
@@ -1563,13 +1563,18 @@ public final class LeanLatches {
                 int row = order[head];
                 int can = (edges[row] | easedLatches) & ~stillLatches;
                 for (int latch = 0; latch < latches; latch++) {
-                    int to = row ^ 1 << latch;
-                    if ((can >> latch & 1) != 0 && to != barredRow && steps[to] == NONE && found < MOST_ROWS) {
-                        steps[to] = steps[row] + 1;
-                        order[found] = to;
-                        found++;
+                    if ((can >> latch & 1) != 0) {
+                        finds(row ^ 1 << latch, steps[row] + 1);
                     }
                 }
+            }
+        }
+
+        private void finds(int row, int far) {
+            if (row != barredRow && has(row) && steps[row] == NONE && found < MOST_ROWS) {
+                steps[row] = far;
+                order[found] = row;
+                found++;
             }
         }
 
@@ -1743,10 +1748,11 @@ public final class LeanLatches {
             return NOT_SO;
         }
 
-        private int eased(int now, int target, int sealed) {
+        /** Only sets of LATCHES that LEAN on something and aren't SEALED are tried: others are of no use. */
+        private int eased(int now, int target, int sealed, int leaning) {
             for (int size = 0; size <= latches; size++) {
                 for (int set = 0; set < rows; set++) {
-                    if (Integer.bitCount(set) == size) {
+                    if ((set & ~leaning | set & sealed) == 0 && Integer.bitCount(set) == size) {
                         bar(NONE, sealed, set);
                         spread(moves, now);
                         if (isHad(target)) {

@@ -87,7 +87,12 @@ public final class MinutesTest {
 
     /** Which of a row of pushes seal by rust: the same numbers, drawn here once more. */
     private static void numbers() {
-        int rust = 40;
+        for (int rust : new int[] {1, 2, 20, 40, 60, 98, 99}) {
+            numbersOf(rust);
+        }
+    }
+
+    private static void numbersOf(int rust) {
         StringBuilder text = new StringBuilder("rust " + rust + ";seed 77777;");
         for (int j = 0; j < 8; j++) {
             text.append("latch ").append((char) ('a' + j)).append(" 0;");
@@ -105,7 +110,7 @@ public final class MinutesTest {
         x.go(1);
         Bench.due("sealed by numbers", x.row(1), sealed);
         // No number is drawn by 0 and by 100, one is drawn though the law of sealing has sealed already.
-        x = Bench.door(text + "law eat (place<>1 and place<>2)*40+(place=2)*100;law seal place=0;");
+        x = Bench.door(text + "law eat (place<>1 and place<>2)*" + rust + "+(place=2)*100;law seal place=0;");
         x.go(1);
         number = 77777;
         sealed = 1 | 4;

@@ -8,6 +8,7 @@ public final class PathsTest {
     public static void main(String[] args) {
         rings();
         free();
+        shutIn();
         oneWay();
         sealed();
         easing();
@@ -65,6 +66,21 @@ public final class PathsTest {
         Bench.due("drunk(0, 2, 1)", x.drunk(0, 2, 1), 8);
     }
 
+    private static void shutIn() {
+        LeanLatches x = Bench.door("latch a 0;latch b 0;lean a down b;lean b down a;");
+        Bench.due("fewest(3)", x.fewest(3), -2);
+        Bench.due("reach", x.reach(), 3);
+        Bench.due("farthest(0)", x.farthest(0), 1);
+        Bench.due("farthest(1), the least", x.farthest(1), 1);
+        Bench.due("wide", x.wide(), 2);
+        Bench.due("parts", x.parts(), 2);
+        x.push(1);
+        Bench.due("past(1, 0)", x.past(1, 0), 0);
+        Bench.due("past(1, 1)", x.past(1, 1), -2);
+        Bench.due("must(1)", x.must(1), 3);
+        Bench.due("free(0)", x.free(0), 2);
+    }
+
     private static void oneWay() {
         LeanLatches x = Bench.door(ONE_WAY);
         // Of row 4: a and c can be moved; of row 0 none can; of row 5 b and a and c.
@@ -84,6 +100,14 @@ public final class PathsTest {
         Bench.due("row 4 can't be had", x.fewest(4), -2);
         Bench.due("wide of one alone", x.wide(), 0);
         Bench.due("parts are of all rows", x.parts(), 2);
+        // a goes up and never down again: by as, it is one of b's others.
+        x = Bench.door("latch a 0;latch b 0;lean b not many 1;lean a as b;");
+        Bench.due("parts by no way back", x.parts(), 3);
+        Bench.due("reach by no way back", x.reach(), 4);
+        Bench.due("wide by no way back", x.wide(), 2);
+        x.push(0);
+        Bench.due("none can be moved", x.row(2), 0);
+        Bench.due("past by no way", x.past(0, 0), -1);
     }
 
     private static void sealed() {
@@ -121,6 +145,14 @@ public final class PathsTest {
         Bench.due("ease(1)", x.ease(1), 1);
         Bench.due("ease(2)", x.ease(2), 2);
         Bench.due("ease(3)", x.ease(3), 3);
+        // a and b together are less as bits than c alone, but more of them.
+        x = Bench.door("latch a 0;latch b 0;latch c 0;latch d 0;"
+            + "lean a many 8;lean b as a;lean c as a;lean d up a and up b or up c;");
+        Bench.due("the fewest first", x.ease(8), 4);
+        x = Bench.door("latch a 0;latch b 0;lean a many 3;lean b as a;");
+        Bench.due("ease(3) of all", x.ease(3), 3);
+        x.seal(1);
+        Bench.due("ease(3) of a sealed one", x.ease(3), -2);
     }
 
     private static void games() {
