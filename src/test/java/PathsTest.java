@@ -8,6 +8,7 @@ public final class PathsTest {
     public static void main(String[] args) {
         rings();
         free();
+        manyWays();
         shutIn();
         oneWay();
         sealed();
@@ -64,6 +65,24 @@ public final class PathsTest {
         Bench.due("game(0)", x.game(0), 1);
         Bench.due("drunk(1, 1, 1)", x.drunk(1, 1, 1), 8);
         Bench.due("drunk(0, 2, 1)", x.drunk(0, 2, 1), 8);
+    }
+
+    /** g can be moved while the six are up, h while g is up and the six are down: each time 720 ways. */
+    private static void manyWays() {
+        LeanLatches x = Bench.door("latch a 0;latch b 0;latch c 0;latch d 0;latch e 0;latch f 0;latch g 0;latch h 0;"
+            + "lean g up a and up b and up c and up d and up e and up f;"
+            + "lean h up g and down a and down b and down c and down d and down e and down f;");
+        Bench.due("fewest(64)", x.fewest(64), 13);
+        Bench.due("ways(64)", x.ways(64), 720 * 720);
+        Bench.due("ways(192)", x.ways(192), 720 * 720);
+        Bench.due("fewest(255)", x.fewest(255), 20);
+        Bench.due("ways(255)", x.ways(255), 720 * 720 * 720);
+        Bench.due("fewest(128)", x.fewest(128), 27);
+        Bench.due("ways(128), 1000000000 at most", x.ways(128), 1000000000);
+        Bench.due("past(128, 0)", x.past(128, 0), 63);
+        Bench.due("past(128, 3)", x.past(128, 3), 192);
+        Bench.due("past(128, 5)", x.past(128, 5), 191);
+        Bench.due("past(128, 6)", x.past(128, 6), -2);
     }
 
     private static void shutIn() {
