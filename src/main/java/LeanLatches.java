@@ -513,7 +513,7 @@ public final class LeanLatches {
     /** Finds by how few MOVES each ROW can be had from now. */
     private void lookAround() {
         paths.lay(door, state.sealed);
-        paths.spread(paths.moves, state.row);
+        paths.spread(state.row);
     }
 
     private static long power(long base, int times) {
@@ -1157,24 +1157,30 @@ public final class LeanLatches {
             return (1 << latches) - 1;
         }
 
-        /**
-         * Works out once for each ROW which LATCHES could be MOVED in it. An as asks what
-         * was worked out of the other LATCH, which was told to LEAN ahead: so many counts
-         * others than the LATCH of the LINE in which it stands, behind as, too.
-         */
+        /** Works out once for each ROW which LATCHES could be MOVED in it. */
         private void settle() {
             for (int row = 0; row < 1 << latches && row < MOST_ROWS; row++) {
-                scene.row = row;
-                scene.open = all() & ~leaning;
-                for (int i = 0; i < leans && i < MOST_LATCHES; i++) {
-                    int latch = leanOrder[i];
-                    scene.latch = latch;
-                    if (has(latch) && knots.worth(leanEnds[2 * latch], leanEnds[2 * latch + 1], scene) != 0) {
-                        scene.open |= 1 << latch;
-                    }
-                }
-                open[row] = scene.open;
+                int ups = Integer.bitCount(row);
+                // many leaves out the LATCH that LEANS, behind as, too: if that is up, others are one fewer.
+                open[row] = openBy(row, ups) & ~row | openBy(row, ups - 1) & row;
             }
+        }
+
+        /**
+         * The LATCHES whose LEANING is so in a ROW, were so many others up. By leanOrder, what an
+         * as asks for has been worked out by then, for the same others.
+         */
+        private int openBy(int row, int others) {
+            scene.row = row;
+            scene.others = others;
+            scene.open = all() & ~leaning;
+            for (int i = 0; i < leans && i < MOST_LATCHES; i++) {
+                int latch = leanOrder[i];
+                if (has(latch) && knots.worth(leanEnds[2 * latch], leanEnds[2 * latch + 1], scene) != 0) {
+                    scene.open |= 1 << latch;
+                }
+            }
+            return scene.open;
         }
 
         private int movable(int row, int sealed) {
@@ -1186,6 +1192,7 @@ public final class LeanLatches {
     private static final class Scene {
         private int row;
         private int latch;
+        private int others;
         private int open;
         private int worn;
         private int seals;
@@ -1208,7 +1215,7 @@ public final class LeanLatches {
                 case DOWN:
                     return ~row >> value & 1;
                 case MANY:
-                    return Integer.bitCount(row & ~(1 << latch)) >= value ? 1 : 0;
+                    return others >= value ? 1 : 0;
                 case AS:
                     return open >> value & 1;
                 case WORN:
@@ -1506,7 +1513,6 @@ public final class LeanLatches {
         private static final int ALL_ALIKE = 840;
 
         private final int[] moves = new int[MOST_ROWS];
-        private final int[] backMoves = new int[MOST_ROWS];
         private final int[] steps = new int[MOST_ROWS];
         private final int[] order = new int[MOST_ROWS];
         private final int[] marks = new int[MOST_ROWS];
@@ -1549,10 +1555,10 @@ public final class LeanLatches {
         }
 
         /** Finds all ROWS that can be had from one, nearest first, and by how few MOVES each. */
-        private void spread(int[] edges, int from) {
+        private void spread(int from) {
             Arrays.fill(steps, NONE);
             found = 0;
-            if (!has(from) || edges.length < rows) {
+            if (!has(from)) {
                 return;
             }
             start = from;
@@ -1561,7 +1567,7 @@ public final class LeanLatches {
             found = 1;
             for (int head = 0; head < found && head < MOST_ROWS; head++) {
                 int row = order[head];
-                int can = (edges[row] | easedLatches) & ~stillLatches;
+                int can = (moves[row] | easedLatches) & ~stillLatches;
                 for (int latch = 0; latch < latches; latch++) {
                     if ((can >> latch & 1) != 0) {
                         finds(row ^ 1 << latch, steps[row] + 1);
@@ -1635,61 +1641,40 @@ public final class LeanLatches {
         }
 
         private int width(int now) {
-            spread(moves, now);
+            spread(now);
             int hadRows = found;
             System.arraycopy(order, 0, marks, 0, MOST_ROWS);
             int width = 0;
             for (int i = 0; i < hadRows && i < MOST_ROWS; i++) {
-                spread(moves, marks[i]);
+                spread(marks[i]);
                 width = Math.max(width, steps[farthestRow()]);
             }
             return width;
         }
 
+        /** No LATCH LEANS on itself, so each MOVE has its way back: a spread finds a whole part. */
         private int partsInAll() {
-            turnRound();
             Arrays.fill(marks, 0);
             int parts = 0;
             for (int row = 0; row < rows; row++) {
-                if (marks[row] != 2) {
+                if (marks[row] == 0) {
                     parts++;
-                    markPart(row);
+                    spread(row);
+                    markFound();
                 }
             }
             return parts;
         }
 
-        private void turnRound() {
-            for (int row = 0; row < rows; row++) {
-                backMoves[row] = 0;
-                for (int latch = 0; latch < latches; latch++) {
-                    if (isMovable(row ^ 1 << latch, latch)) {
-                        backMoves[row] |= 1 << latch;
-                    }
-                }
-            }
-        }
-
-        /** Marks with 2 all ROWS that can be had from this one, and this one from them. */
-        private void markPart(int row) {
-            spread(backMoves, row);
+        private void markFound() {
             for (int i = 0; i < found && i < MOST_ROWS; i++) {
-                marks[order[i]] |= 1;
-            }
-            spread(moves, row);
-            for (int i = 0; i < found && i < MOST_ROWS; i++) {
-                if (marks[order[i]] == 1) {
-                    marks[order[i]] = 2;
-                }
-            }
-            for (int other = 0; other < rows; other++) {
-                marks[other] &= 2;
+                marks[order[i]] = 1;
             }
         }
 
         /** The k-th ROW of PAST. */
         private int narrow(int now, int target, int k) {
-            spread(moves, now);
+            spread(now);
             if (!isHad(target)) {
                 return NONE;
             }
@@ -1703,7 +1688,7 @@ public final class LeanLatches {
             int left = k;
             for (int i = 0; i < between && i < MOST_ROWS; i++) {
                 bar(marks[i], 0, 0);
-                spread(moves, now);
+                spread(now);
                 if (!isHad(target)) {
                     if (left == 0) {
                         return marks[i];
@@ -1724,14 +1709,14 @@ public final class LeanLatches {
         }
 
         private int needed(int now, int target) {
-            spread(moves, now);
+            spread(now);
             if (!isHad(target)) {
                 return NOT_SO;
             }
             int needed = 0;
             for (int latch = 0; latch < latches; latch++) {
                 bar(NONE, 1 << latch, 0);
-                spread(moves, now);
+                spread(now);
                 if (!isHad(target)) {
                     needed |= 1 << latch;
                 }
@@ -1754,7 +1739,7 @@ public final class LeanLatches {
                 for (int set = 0; set < rows; set++) {
                     if ((set & ~leaning | set & sealed) == 0 && Integer.bitCount(set) == size) {
                         bar(NONE, sealed, set);
-                        spread(moves, now);
+                        spread(now);
                         if (isHad(target)) {
                             return set;
                         }

@@ -78,12 +78,23 @@ public final class DoorTest {
     }
 
     private static void manyAndAs() {
-        // Behind as, many still counts others than the latch in whose line it stands: b is one of a's others.
-        LeanLatches x = Bench.door("latch a 0;latch b 0;latch c 0;lean a many 1;lean b as a;");
-        Bench.due("could b in row of b alone", x.could(2, 1), 1);
-        Bench.due("could b in row of a alone", x.could(1, 1), 0);
+        // Behind as, many counts others than the latch that leans so: b is none of its own others.
+        LeanLatches x = Bench.door("latch a 0;latch b 0;latch c 0;lean a many 1;lean b as a;lean c as b;");
+        Bench.due("could b in row of b alone", x.could(2, 1), 0);
+        Bench.due("could b in row of a alone", x.could(1, 1), 1);
         Bench.due("could a in row of a alone", x.could(1, 0), 0);
         Bench.due("could a in row of b alone", x.could(2, 0), 1);
+        Bench.due("could c in row of c alone, by as of as", x.could(4, 2), 0);
+        Bench.due("could c in row of a alone, by as of as", x.could(1, 2), 1);
+        Bench.due("could c in row of b alone, by as of as", x.could(2, 2), 1);
+        Bench.due("could c in row of b and c", x.could(6, 2), 1);
+        x = Bench.door("latch a 0;latch b 0;latch c 0;lean a not many 1;lean b not as a;"
+            + "lean c many 1 and not (as b and many 2);");
+        Bench.due("could b in row of b alone, by not as of not", x.could(2, 1), 0);
+        Bench.due("could b in row of c alone, by not as of not", x.could(4, 1), 1);
+        Bench.due("could c in row of c alone, its own many and that behind as", x.could(4, 2), 0);
+        Bench.due("could c in row of a and c, its own many and that behind as", x.could(5, 2), 1);
+        Bench.due("could c in row of all", x.could(7, 2), 0);
         // A latch told behind the line that leans counts, too.
         x = Bench.door("latch a 0;lean a many 1;latch b 0;latch c 1;");
         Bench.due("could a while c is up", x.could(4, 0), 1);

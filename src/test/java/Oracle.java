@@ -287,7 +287,7 @@ final class Oracle {
                 return env -> {
                     int others = 0;
                     for (int j = 0; j < 8; j++) {
-                        others += j != latch && (env.row >> j & 1) == 1 ? 1 : 0;
+                        others += j != env.latch && (env.row >> j & 1) == 1 ? 1 : 0;
                     }
                     return others >= n ? 1 : 0;
                 };

@@ -82,6 +82,21 @@ public final class OracleTest {
             check("count(" + what + ")", x.count(what), o.count(what));
         }
         latches = x.count(0);
+        checkLeaning();
+    }
+
+    /** Each latch in each row; no latch leans on itself, so that what can be moved can be moved back at once. */
+    private void checkLeaning() {
+        for (int row = 0; row < 1 << latches && !failed; row++) {
+            for (int latch = 0; latch < latches; latch++) {
+                int could = x.could(row, latch);
+                int back = x.could(row ^ 1 << latch, latch);
+                if (could != o.could(row, latch) || could != back) {
+                    check("could(" + row + ", " + latch + ")", could, o.could(row, latch));
+                    check("could(" + (row ^ 1 << latch) + ", " + latch + ")", back, could);
+                }
+            }
+        }
     }
 
     private String spoilt(String text) {
@@ -98,22 +113,8 @@ public final class OracleTest {
         for (int j = 0; j < late; j++) {
             text.append("latch ").append(NAMES[j]).append(' ').append(pick(2)).append(';');
         }
-        StringBuilder leans = new StringBuilder();
-        boolean rings = pick(4) == 0;
-        for (int j = 1; j < late && rings; j++) {
-            leans.append("lean ").append(NAMES[j]).append(" up ").append(NAMES[j - 1]);
-            for (int i = 0; i < j - 1; i++) {
-                leans.append(" and down ").append(NAMES[i]);
-            }
-            leans.append(';');
-        }
-        for (int j = 0; j < late && !rings; j++) {
-            int latch = pick(2) == 0 ? j : pick(late);
-            if (pick(4) > 0 && leans.indexOf("lean " + NAMES[latch] + " ") < 0) {
-                leans.append("lean ").append(NAMES[latch]).append(' ').append(lean(latch, late, 2)).append(';');
-            }
-        }
-        text.append(leans);
+        int shape = pick(5);
+        text.append(shape == 0 ? rings(late) : shape == 1 ? chain(late) : drawnLeans(late));
         for (int j = late; j < n; j++) {
             text.append("latch ").append(NAMES[j]).append(' ').append(pick(2)).append(';');
         }
@@ -136,6 +137,43 @@ public final class OracleTest {
             }
         }
         return text.toString();
+    }
+
+    private String rings(int n) {
+        StringBuilder leans = new StringBuilder();
+        for (int j = 1; j < n; j++) {
+            leans.append("lean ").append(NAMES[j]).append(" up ").append(NAMES[j - 1]);
+            for (int i = 0; i < j - 1; i++) {
+                leans.append(" and down ").append(NAMES[i]);
+            }
+            leans.append(';');
+        }
+        return leans.toString();
+    }
+
+    /** Each by many, and as one told ahead. */
+    private String chain(int n) {
+        StringBuilder leans = new StringBuilder();
+        for (int j = 0; j < n; j++) {
+            leans.append("lean ").append(NAMES[j]).append(pick(3) == 0 ? " not many " : " many ").append(pick(4));
+            if (j > 0 && pick(4) > 0) {
+                leans.append(pick(2) == 0 ? " and " : " or ").append(pick(3) == 0 ? "not as " : "as ");
+                leans.append(NAMES[pick(j)]);
+            }
+            leans.append(';');
+        }
+        return leans.toString();
+    }
+
+    private String drawnLeans(int n) {
+        StringBuilder leans = new StringBuilder();
+        for (int j = 0; j < n; j++) {
+            int latch = pick(2) == 0 ? j : pick(n);
+            if (pick(4) > 0 && leans.indexOf("lean " + NAMES[latch] + " ") < 0) {
+                leans.append("lean ").append(NAMES[latch]).append(' ').append(lean(latch, n, 2)).append(';');
+            }
+        }
+        return leans.toString();
     }
 
     private String lean(int latch, int n, int depth) {

@@ -2,15 +2,15 @@
 public final class PathsTest {
     private static final String RINGS = "latch a 1;latch b 1;latch c 1;latch d 1;"
         + "lean b up a;lean c up b and down a;lean d up c and down b and down a;";
-    /** c can be moved only while c or b is up: by as, it counts as one of a's others. */
-    private static final String ONE_WAY = "latch a 0;latch b 0;latch c 1;lean a many 1;lean c as a;lean b up a;";
+    /** a can be moved while b or c is up, c while a or b is: all but the row of none hang together. */
+    private static final String BEHIND_AS = "latch a 0;latch b 0;latch c 1;lean a many 1;lean c as a;lean b up a;";
 
     public static void main(String[] args) {
         rings();
         free();
         manyWays();
         shutIn();
-        oneWay();
+        behindAs();
         sealed();
         easing();
         games();
@@ -100,33 +100,38 @@ public final class PathsTest {
         Bench.due("free(0)", x.free(0), 2);
     }
 
-    private static void oneWay() {
-        LeanLatches x = Bench.door(ONE_WAY);
-        // Of row 4: a and c can be moved; of row 0 none can; of row 5 b and a and c.
+    private static void behindAs() {
+        LeanLatches x = Bench.door(BEHIND_AS);
         Bench.due("could(0, 2)", x.could(0, 2), 0);
-        Bench.due("could(4, 2)", x.could(4, 2), 1);
-        Bench.due("fewest(0)", x.fewest(0), 1);
-        Bench.due("reach", x.reach(), 8);
+        Bench.due("could(4, 2)", x.could(4, 2), 0);
+        Bench.due("could(5, 2)", x.could(5, 2), 1);
+        Bench.due("fewest(0)", x.fewest(0), -2);
+        Bench.due("reach", x.reach(), 7);
         Bench.due("fewest(1)", x.fewest(1), 2);
         Bench.due("ways(1)", x.ways(1), 1);
+        Bench.due("fewest(2)", x.fewest(2), 4);
+        Bench.due("ways(2)", x.ways(2), 3);
         Bench.due("parts", x.parts(), 2);
         Bench.due("past(2, 0)", x.past(2, 0), 5);
+        Bench.due("past(2, 1)", x.past(2, 1), -2);
         Bench.due("must(2)", x.must(2), 7);
-        // From row 2 to row 0: by 3, 7, 5, 4.
-        Bench.due("wide", x.wide(), 5);
+        Bench.due("farthest(0)", x.farthest(0), 4);
+        Bench.due("farthest(1)", x.farthest(1), 2);
+        Bench.due("wide", x.wide(), 4);
         x.force(2);
         Bench.due("from row 0", x.reach(), 1);
         Bench.due("row 4 can't be had", x.fewest(4), -2);
         Bench.due("wide of one alone", x.wide(), 0);
         Bench.due("parts are of all rows", x.parts(), 2);
-        // a goes up and never down again: by as, it is one of b's others.
+        // Each can be moved while the other one is down.
         x = Bench.door("latch a 0;latch b 0;lean b not many 1;lean a as b;");
-        Bench.due("parts by no way back", x.parts(), 3);
-        Bench.due("reach by no way back", x.reach(), 4);
-        Bench.due("wide by no way back", x.wide(), 2);
+        Bench.due("parts by not many", x.parts(), 2);
+        Bench.due("reach by not many", x.reach(), 3);
+        Bench.due("wide by not many", x.wide(), 2);
         x.push(0);
-        Bench.due("none can be moved", x.row(2), 0);
-        Bench.due("past by no way", x.past(0, 0), -1);
+        Bench.due("a has its way back", x.row(2), 1);
+        Bench.due("fewest back", x.fewest(0), 1);
+        Bench.due("past to the next", x.past(0, 0), -2);
     }
 
     private static void sealed() {
