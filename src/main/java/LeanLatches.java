@@ -1633,7 +1633,8 @@ public final class LeanLatches {
         private int farthestRow() {
             int farthest = start;
             for (int row = 0; row < rows; row++) {
-                if (steps[row] > steps[farthest] || steps[row] == steps[farthest] && row < farthest) {
+                // Of several, the least has come first.
+                if (steps[row] > steps[farthest]) {
                     farthest = row;
                 }
             }

@@ -4,15 +4,23 @@ import java.nio.charset.StandardCharsets;
 final class Bench {
     private static int wrong;
     private static int asked;
+    private static int sentences;
+    private static String sentence = "";
 
     private Bench() {
+    }
+
+    /** The sentence of the document by which the answers that follow are due. */
+    static void says(String words) {
+        sentences++;
+        sentence = "[" + words + "] ";
     }
 
     static void due(String call, long got, long want) {
         asked++;
         if (got != want) {
             wrong++;
-            System.out.println(call + " answered " + got + ", due is " + want);
+            System.out.println(sentence + call + " answered " + got + ", due is " + want);
         }
     }
 
@@ -57,6 +65,34 @@ final class Bench {
         return x;
     }
 
+    /** The text has its fault where the @ stands, which isn't of the text. */
+    static void faulty(int fault, String marked) {
+        int place = marked.indexOf('@');
+        String text = marked.substring(0, place) + marked.substring(place + 1);
+        LeanLatches x = new LeanLatches();
+        due("text of " + marked, tell(x, text), -1);
+        due("fault(0) of " + marked, x.fault(0), fault);
+        due("fault(1) of " + marked, x.fault(1), place);
+        due("count(0) of " + marked, x.count(0), 0);
+    }
+
+    static void fine(String text, int lines, int knots) {
+        LeanLatches x = new LeanLatches();
+        due("text of " + text, tell(x, text), lines);
+        due("fault(0) of " + text, x.fault(0), 0);
+        due("fault(1) of " + text, x.fault(1), -1);
+        due("count(3) of " + text, x.count(3), knots);
+    }
+
+    /** The LINES of so many LATCHES, a and on, all down or all up. */
+    static String latches(int n, int up) {
+        StringBuilder text = new StringBuilder();
+        for (int j = 0; j < n; j++) {
+            text.append("latch ").append((char) ('a' + j)).append(' ').append(up).append(';');
+        }
+        return text.toString();
+    }
+
     /** A text's letters as named() wants them. */
     static int letters(String word) {
         int code = 0;
@@ -66,8 +102,19 @@ final class Bench {
         return code;
     }
 
+    /** What is kept of the last number, and of which the next one is drawn. */
+    static long drawn(long last) {
+        return (last * 1103515245L + 12345) % (1L << 31);
+    }
+
+    /** What is asked of a number that is kept so. */
+    static long ofHundred(long drawn) {
+        return drawn / 65536 % 100;
+    }
+
     static void end(String name) {
-        System.out.println(name + ": " + asked + " answers, " + wrong + " not as due");
+        String told = sentences == 0 ? "" : sentences + " sentences, ";
+        System.out.println(name + ": " + told + asked + " answers, " + wrong + " not as due");
         if (wrong != 0) {
             System.exit(1);
         }

@@ -1,24 +1,5 @@
 /** Promises 1 to 5: a new object, feed, text, fault, named. */
 public final class TextTest {
-    /** The text has its fault where the @ stands, which isn't of the text. */
-    private static void faulty(int fault, String marked) {
-        int place = marked.indexOf('@');
-        String text = marked.substring(0, place) + marked.substring(place + 1);
-        LeanLatches x = new LeanLatches();
-        Bench.due("text of " + marked, Bench.tell(x, text), -1);
-        Bench.due("fault(0) of " + marked, x.fault(0), fault);
-        Bench.due("fault(1) of " + marked, x.fault(1), place);
-        Bench.due("count(0) of " + marked, x.count(0), 0);
-    }
-
-    private static void fine(String text, int lines, int knots) {
-        LeanLatches x = new LeanLatches();
-        Bench.due("text of " + text, Bench.tell(x, text), lines);
-        Bench.due("fault(0) of " + text, x.fault(0), 0);
-        Bench.due("fault(1) of " + text, x.fault(1), -1);
-        Bench.due("count(3) of " + text, x.count(3), knots);
-    }
-
     public static void main(String[] args) {
         newObject();
         feeding();
@@ -105,158 +86,154 @@ public final class TextTest {
     }
 
     private static void standing() {
-        fine("", 0, 0);
-        fine("oil 1;oil 1;oil 99;oil 0;", 4, 0);
-        fine("oil\n0001;", 1, 0);
-        fine("oil1;rust2;seed00000099999;", 3, 0);
-        fine("law eat 1<=2and not 3<>4or(5)>=6+worn*place/ups-seals;", 1, 20);
-        fine("law seal high=tired and minute>0;law effort not not 1<2;", 2, 12);
-        fine("latch a 1;latch b 0;lean a not(up b or down b)and many 8;lean b many 1;", 4, 7);
-        fine("latch a 1;latch b 0;latch abcdef 0;lean b up abcdef;lean a as b and not as b;", 5, 5);
-        fine("law eat ((((((((1))))))))+((((((((2))))))));", 1, 3);
-        fine("law eat " + "not ".repeat(63) + "1;", 1, 64);
-        fine("law eat 9999" + "+9999".repeat(31) + ";", 1, 63);
+        Bench.fine("", 0, 0);
+        Bench.fine("oil 1;oil 1;oil 99;oil 0;", 4, 0);
+        Bench.fine("oil\n0001;", 1, 0);
+        Bench.fine("oil1;rust2;seed00000099999;", 3, 0);
+        Bench.fine("law eat 1<=2and not 3<>4or(5)>=6+worn*place/ups-seals;", 1, 20);
+        Bench.fine("law seal high=tired and minute>0;law effort not not 1<2;", 2, 12);
+        Bench.fine("latch a 1;latch b 0;lean a not(up b or down b)and many 8;lean b many 1;", 4, 7);
+        Bench.fine("latch a 1;latch b 0;latch abcdef 0;lean b up abcdef;lean a as b and not as b;", 5, 5);
+        Bench.fine("law eat ((((((((1))))))))+((((((((2))))))));", 1, 3);
+        Bench.fine("law eat " + "not ".repeat(63) + "1;", 1, 64);
+        Bench.fine("law eat 9999" + "+9999".repeat(31) + ";", 1, 63);
         // Two latches may lean on one another by up and down, and many leans on no single one.
-        fine("latch a 1;latch b 0;lean a up b;lean b up a;", 4, 2);
-        fine("latch a 1;latch b 0;lean a many 1;lean b as a;", 4, 2);
-        fine("latch a 1;latch b 0;latch c 0;lean a up c;lean b as a;lean c up a;", 6, 3);
+        Bench.fine("latch a 1;latch b 0;lean a up b;lean b up a;", 4, 2);
+        Bench.fine("latch a 1;latch b 0;lean a many 1;lean b as a;", 4, 2);
+        Bench.fine("latch a 1;latch b 0;latch c 0;lean a up c;lean b as a;lean c up a;", 6, 3);
     }
 
     private static void wrongTokens() {
-        faulty(1, "@latchs a 1;");
-        faulty(1, "@;");
-        faulty(1, "oil 1;@;");
-        faulty(1, "latch @abcdefg 1;");
-        faulty(1, "latch @latch 1;");
-        faulty(1, "latch @worn 1;");
-        faulty(1, "latch a@A 1;");
-        faulty(1, "latch @1 1;");
-        faulty(1, "latch a @b;");
-        faulty(1, "latch a 1@a;");
-        faulty(1, "oil @\t1;");
-        faulty(1, "oil @-1;");
-        faulty(1, "oil 1 @2;");
-        faulty(1, "oil 1@,oil 2;");
-        faulty(1, "rust @;");
-        faulty(1, "seed @x;");
-        faulty(1, "law @worn 1;");
-        faulty(1, "law @x 1;");
-        faulty(1, "law @7 1;");
-        faulty(1, "push @9 9;");
-        faulty(1, "lean @up up b;");
-        faulty(1, "@worn 1;");
+        Bench.faulty(1, "@latchs a 1;");
+        Bench.faulty(1, "@;");
+        Bench.faulty(1, "oil 1;@;");
+        Bench.faulty(1, "latch @abcdefg 1;");
+        Bench.faulty(1, "latch @latch 1;");
+        Bench.faulty(1, "latch @worn 1;");
+        Bench.faulty(1, "latch a@A 1;");
+        Bench.faulty(1, "latch @1 1;");
+        Bench.faulty(1, "latch a @b;");
+        Bench.faulty(1, "latch a 1@a;");
+        Bench.faulty(1, "oil @\t1;");
+        Bench.faulty(1, "oil @-1;");
+        Bench.faulty(1, "oil 1 @2;");
+        Bench.faulty(1, "oil 1@,oil 2;");
+        Bench.faulty(1, "rust @;");
+        Bench.faulty(1, "seed @x;");
+        Bench.faulty(1, "law @worn 1;");
+        Bench.faulty(1, "law @x 1;");
+        Bench.faulty(1, "law @7 1;");
+        Bench.faulty(1, "push @9 9;");
+        Bench.faulty(1, "lean @up up b;");
+        Bench.faulty(1, "@worn 1;");
     }
 
     private static void wrongFormulas() {
         String two = "latch a 1;latch b 0;lean a ";
-        faulty(1, two + "@;");
-        faulty(1, two + "@b;");
-        faulty(1, two + "up @;");
-        faulty(1, two + "up @up;");
-        faulty(1, two + "up @5;");
-        faulty(1, two + "many @b;");
-        faulty(1, two + "@1;");
-        faulty(1, two + "@worn;");
-        faulty(1, two + "up b @+ up b;");
-        faulty(1, two + "up b @< up b;");
-        faulty(1, two + "up b @up b;");
-        faulty(1, two + "up b @not up b;");
-        faulty(1, two + "up b @(up b);");
-        faulty(1, two + "up b and @;");
-        faulty(1, two + "(up b @;");
-        faulty(1, two + "up b@);");
-        faulty(1, two + "(@);");
-        faulty(1, two + "up b and @or up b;");
-        faulty(1, "law eat @;");
-        faulty(1, "law eat @-1;");
-        faulty(1, "law eat 1 @2;");
-        faulty(1, "law eat 1 < 2 @< 3;");
-        faulty(1, "law eat 1 < 2 + 3 * 4 @= 3;");
-        faulty(1, "law eat 1 < @not 2;");
-        faulty(1, "law eat 1 + @not 2;");
-        faulty(1, "law eat 1 < @= 2;");
-        faulty(1, "law eat 1 > @< 2;");
-        faulty(1, "law eat 1 = @= 2;");
-        faulty(1, "law eat 1 = @> 2;");
-        faulty(1, "law eat 1 <> @= 2;");
-        faulty(1, "law eat (1@;");
-        faulty(1, "law eat 1@);");
-        faulty(1, "law eat @up;");
-        faulty(1, "law eat 1 @not 2;");
-        faulty(1, "law eat 1 + @;");
-        faulty(1, "law eat 1;@;");
+        Bench.faulty(1, two + "@;");
+        Bench.faulty(1, two + "@b;");
+        Bench.faulty(1, two + "up @;");
+        Bench.faulty(1, two + "up @up;");
+        Bench.faulty(1, two + "up @5;");
+        Bench.faulty(1, two + "many @b;");
+        Bench.faulty(1, two + "@1;");
+        Bench.faulty(1, two + "@worn;");
+        Bench.faulty(1, two + "up b @+ up b;");
+        Bench.faulty(1, two + "up b @< up b;");
+        Bench.faulty(1, two + "up b @up b;");
+        Bench.faulty(1, two + "up b @not up b;");
+        Bench.faulty(1, two + "up b @(up b);");
+        Bench.faulty(1, two + "up b and @;");
+        Bench.faulty(1, two + "(up b @;");
+        Bench.faulty(1, two + "up b@);");
+        Bench.faulty(1, two + "(@);");
+        Bench.faulty(1, two + "up b and @or up b;");
+        Bench.faulty(1, "law eat @;");
+        Bench.faulty(1, "law eat @-1;");
+        Bench.faulty(1, "law eat 1 @2;");
+        Bench.faulty(1, "law eat 1 < 2 @< 3;");
+        Bench.faulty(1, "law eat 1 < 2 + 3 * 4 @= 3;");
+        Bench.faulty(1, "law eat 1 < @not 2;");
+        Bench.faulty(1, "law eat 1 + @not 2;");
+        Bench.faulty(1, "law eat 1 < @= 2;");
+        Bench.faulty(1, "law eat 1 > @< 2;");
+        Bench.faulty(1, "law eat 1 = @= 2;");
+        Bench.faulty(1, "law eat 1 = @> 2;");
+        Bench.faulty(1, "law eat 1 <> @= 2;");
+        Bench.faulty(1, "law eat (1@;");
+        Bench.faulty(1, "law eat 1@);");
+        Bench.faulty(1, "law eat @up;");
+        Bench.faulty(1, "law eat 1 @not 2;");
+        Bench.faulty(1, "law eat 1 + @;");
+        Bench.faulty(1, "law eat 1;@;");
     }
 
     private static void endings() {
-        faulty(1, "latch@");
-        faulty(1, "latch  @");
-        faulty(1, "latch a@");
-        faulty(1, "latch a 1@");
-        faulty(1, "latch a 1 \n@");
-        faulty(1, "law eat (1@");
-        faulty(1, "law eat 1 <@");
-        faulty(1, "law@");
-        faulty(1, "latch a 1;lean a many@");
-        faulty(1, "latch a 1;lean a many 1@");
+        Bench.faulty(1, "latch@");
+        Bench.faulty(1, "latch  @");
+        Bench.faulty(1, "latch a@");
+        Bench.faulty(1, "latch a 1@");
+        Bench.faulty(1, "latch a 1 \n@");
+        Bench.faulty(1, "law eat (1@");
+        Bench.faulty(1, "law eat 1 <@");
+        Bench.faulty(1, "law@");
+        Bench.faulty(1, "latch a 1;lean a many@");
+        Bench.faulty(1, "latch a 1;lean a many 1@");
     }
 
     private static void tooMuch() {
-        faulty(2, "latch a @2;");
-        faulty(2, "latch a @99999999999999999999999;");
-        faulty(2, "latch a 1;lean a many @9;");
-        faulty(2, "latch a 1;push a @100;");
-        faulty(2, "oil @100;");
-        faulty(2, "rust @101;");
-        faulty(2, "seed @100000;");
-        faulty(2, "law eat @10000;");
-        faulty(2, "law eat ((((((((@(1);");
-        faulty(2, "latch a 1;lean a ((((((((@(");
-        faulty(2, "oil 1;oil 1;oil 1;oil 1;@oil");
-        faulty(2, "latch a 1;" + "push a 1;".repeat(16) + "@push q 1;");
-        StringBuilder eight = new StringBuilder();
-        for (char c = 'a'; c < 'i'; c++) {
-            eight.append("latch ").append(c).append(" 0;");
-        }
-        faulty(2, eight + "@latch a 0;");
+        Bench.faulty(2, "latch a @2;");
+        Bench.faulty(2, "latch a @99999999999999999999999;");
+        Bench.faulty(2, "latch a 1;lean a many @9;");
+        Bench.faulty(2, "latch a 1;push a @100;");
+        Bench.faulty(2, "oil @100;");
+        Bench.faulty(2, "rust @101;");
+        Bench.faulty(2, "seed @100000;");
+        Bench.faulty(2, "law eat @10000;");
+        Bench.faulty(2, "law eat ((((((((@(1);");
+        Bench.faulty(2, "latch a 1;lean a ((((((((@(");
+        Bench.faulty(2, "oil 1;oil 1;oil 1;oil 1;@oil");
+        Bench.faulty(2, "latch a 1;" + "push a 1;".repeat(16) + "@push q 1;");
+        Bench.faulty(2, Bench.latches(8, 0) + "@latch a 0;");
         String full = "law eat " + "not ".repeat(62) + "1";
-        faulty(2, "law eat " + "not ".repeat(64) + "@1;");
-        faulty(2, full + "+@1");
-        faulty(2, full + " and @worn;");
-        faulty(2, full + "<@1;");
-        faulty(2, full + ";law seal 1 @+ 1;");
-        faulty(2, "latch a 1;latch b 1;" + full + ";lean a up b @and up b;");
-        faulty(2, "latch a 1;latch b 1;" + full + ";lean a up b;lean b @up q;");
+        Bench.faulty(2, "law eat " + "not ".repeat(64) + "@1;");
+        Bench.faulty(2, full + "+@1");
+        Bench.faulty(2, full + " and @worn;");
+        Bench.faulty(2, full + "<@1;");
+        Bench.faulty(2, full + ";law seal 1 @+ 1;");
+        Bench.faulty(2, "latch a 1;latch b 1;" + full + ";lean a up b @and up b;");
+        Bench.faulty(2, "latch a 1;latch b 1;" + full + ";lean a up b;lean b @up q;");
         // What can't stand is told so, though it would be too much, too.
-        faulty(1, full + "+@+");
-        faulty(1, "law eat ((((((((1@(");
+        Bench.faulty(1, full + "+@+");
+        Bench.faulty(1, "law eat ((((((((1@(");
     }
 
     private static void toldAlready() {
-        faulty(3, "latch a 1;latch @a 2;");
-        faulty(3, "latch a 1;latch b 1;lean a up b;lean @a up q;");
-        faulty(3, "rust 1;@rust 1;");
-        faulty(3, "seed 1;@seed x;");
-        faulty(3, "law eat 1;law @eat 1;");
-        faulty(3, "law effort 1;law seal 1;law @effort 1;");
+        Bench.faulty(3, "latch a 1;latch @a 2;");
+        Bench.faulty(3, "latch a 1;latch b 1;lean a up b;lean @a up q;");
+        Bench.faulty(3, "rust 1;@rust 1;");
+        Bench.faulty(3, "seed 1;@seed x;");
+        Bench.faulty(3, "law eat 1;law @eat 1;");
+        Bench.faulty(3, "law effort 1;law seal 1;law @effort 1;");
     }
 
     private static void notTold() {
-        faulty(4, "lean @a up b;");
-        faulty(4, "push @a 1;latch a 1;");
-        faulty(4, "latch a 1;lean a up @b;");
-        faulty(4, "latch a 1;lean a down @b;latch b 1;");
-        faulty(4, "latch a 1;lean a as @a;");
-        faulty(4, "latch a 1;lean a as @b;");
-        faulty(4, "latch a 1;latch b 1;lean a as @b;lean b up a;");
+        Bench.faulty(4, "lean @a up b;");
+        Bench.faulty(4, "push @a 1;latch a 1;");
+        Bench.faulty(4, "latch a 1;lean a up @b;");
+        Bench.faulty(4, "latch a 1;lean a down @b;latch b 1;");
+        Bench.faulty(4, "latch a 1;lean a as @a;");
+        Bench.faulty(4, "latch a 1;lean a as @b;");
+        Bench.faulty(4, "latch a 1;latch b 1;lean a as @b;lean b up a;");
     }
 
     private static void onItself() {
         String three = "latch a 1;latch b 1;latch c 1;";
-        faulty(5, "latch a 1;lean a up @a;");
-        faulty(5, "latch a 1;lean a not (many 1 and down @a);");
-        faulty(5, three + "lean a up b;lean b as @a;");
-        faulty(5, three + "lean a up c;lean b as a;lean c as @b;");
-        faulty(5, three + "lean a many 1 or down c;lean b up a and as a;lean c as @b;");
+        Bench.faulty(5, "latch a 1;lean a up @a;");
+        Bench.faulty(5, "latch a 1;lean a not (many 1 and down @a);");
+        Bench.faulty(5, three + "lean a up b;lean b as @a;");
+        Bench.faulty(5, three + "lean a up c;lean b as a;lean c as @b;");
+        Bench.faulty(5, three + "lean a many 1 or down c;lean b up a and as a;lean c as @b;");
     }
 
     private static void names() {
