@@ -21,7 +21,7 @@ public final class RefusalsTest {
 
     public static void main(String[] args) {
         List<Consumer<LeanLatches>> states = List.of(x -> { }, RefusalsTest::inMidRun, RefusalsTest::full,
-            RefusalsTest::atTheEnd);
+            RefusalsTest::atTheEnd, RefusalsTest::free);
         for (Consumer<LeanLatches> state : states) {
             askings(state);
             refusals(state);
@@ -58,6 +58,10 @@ public final class RefusalsTest {
         for (int i = 0; i < 35; i++) {
             x.feed(0x6f696c20, 0x313b7275, 0x73742031, 0x3b202020, i);
         }
+    }
+
+    private static void free(LeanLatches x) {
+        Bench.tell(x, "latch a 0;latch b 0;latch c 0;lean b many 0;push a 1;push c 3;rust 60;");
     }
 
     private static void atTheEnd(LeanLatches x) {

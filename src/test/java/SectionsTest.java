@@ -670,6 +670,7 @@ public final class SectionsTest {
             }
             Bench.due("wide() of four rings from row " + row, x.wide(), 15);
         }
+        Bench.due("wide(), row 0 is amid the others", Bench.door(AB + "lean a down b;lean b down a;").wide(), 2);
         Bench.says("3. WIDE: of these alone that can be had from now");
         x = Bench.door(rings(3) + "latch d 0;lean d up a and down a;");
         Bench.due("wide()", x.wide(), 7);
@@ -885,6 +886,12 @@ public final class SectionsTest {
         x.note(3, 2, true);
         Bench.due("ask(2, 0) of nothing alone", x.ask(2, 0), 0);
         Bench.due("ask(2, 1) of nothing alone", x.ask(2, 1), 1);
+        LeanLatches four = Bench.door(Bench.latches(4, 0));
+        four.note(0, 3, false);
+        four.note(1, 3, false);
+        Bench.due("fits(3): b up, c up", four.fits(3), 1 << 3 | 1 << 5);
+        Bench.due("ask(3, 0) of b up, c up", four.ask(3, 0), 2);
+        Bench.due("ask(3, 1) of b up, c up", four.ask(3, 1), 1);
         Bench.says("3. ASK: (0 and 0, if none fits)");
         x.note(0, 2, false);
         Bench.due("ask(2, 0)", x.ask(2, 0), 0);
@@ -910,6 +917,10 @@ public final class SectionsTest {
         x.seal(1);
         Bench.due("tried(0, 0, 2), b sealed", x.tried(0, 0, 2), 2);
         Bench.due("tried(0, 0, 3), b sealed until oil", x.tried(0, 0, 3), 3);
+        Bench.says("3. TRIED 0: nor by rust, where no law of eating is told");
+        x = Bench.door("latch a 0;push a 0;push a 1;rust 100;");
+        Bench.due("as it goes", x.ahead(2, 1), 1);
+        Bench.due("tried(0, 0, 2)", x.tried(0, 0, 2), 2);
         Bench.says("3. TRIED 1: nothing LEANS (SEALED ones aren't MOVED)");
         x = Bench.door(AB + "lean a many 8;lean b as a;push a 0;push b 0;push a 1;law seal place=0;");
         Bench.due("as it goes", x.ahead(2, 1), 0);

@@ -360,6 +360,13 @@ public final class TermsTest {
         Bench.due("a seed that isn't told", sealedBehindMinute(eight), sealedOfEight(0));
         Bench.due("seed 0", sealedBehindMinute(eight + "seed 0;"), sealedOfEight(0));
         Bench.due("seed 99999", sealedBehindMinute(eight + "seed 99999;"), sealedOfEight(99999));
+        Bench.says("seed (0): though another one was told before");
+        LeanLatches x = Bench.door(eight + "seed 99999;");
+        for (int time = 0; time < 3; time++) {
+            Bench.tell(x, eight);
+            x.go(1);
+            Bench.due("row(1)", x.row(1), sealedOfEight(0));
+        }
     }
 
     private static int sealedBehindMinute(String text) {
@@ -601,6 +608,8 @@ public final class TermsTest {
         Bench.fine(ABC + "lean c up a;lean b up c;lean a as b;", 6, 3);
         Bench.says("5 not by a TEXT ahead of this one");
         LeanLatches x = Bench.door(AB + "lean b up a;");
-        Bench.due("b leans otherwise", Bench.tell(x, AB + "lean b many 1;lean a as b;"), 4);
+        for (int time = 0; time < 3; time++) {
+            Bench.due("b leans otherwise", Bench.tell(x, AB + "lean b many 1;lean a as b;"), 4);
+        }
     }
 }
