@@ -170,7 +170,7 @@ public final class LeanLatches {
             case 2:
                 return door.movable(state.row, state.sealed) >> latch & 1;
             case 3:
-                return state.worn[latch];
+                return state.wornOf(latch);
             default:
                 throw new NoSuchElementException("no such what");
         }
@@ -210,7 +210,7 @@ public final class LeanLatches {
         if ((door.movable(state.row, state.sealed) >> latch & 1) == 0) {
             return NOT_SO;
         }
-        undos.remember(state);
+        undos.remember(state, latch);
         clock.asItGoes();
         clock.pushes(door, state, latch);
         return Integer.bitCount(state.row);
@@ -220,7 +220,7 @@ public final class LeanLatches {
         if (!door.has(latch)) {
             return NONE;
         }
-        undos.remember(state);
+        undos.remember(state, latch);
         state.row ^= 1 << latch;
         return state.row >> latch & 1;
     }
@@ -229,7 +229,7 @@ public final class LeanLatches {
         if (!door.has(latch)) {
             return NONE;
         }
-        undos.remember(state);
+        undos.remember(state, latch);
         state.sealed ^= 1 << latch;
         return state.sealed >> latch & 1;
     }
@@ -289,7 +289,7 @@ public final class LeanLatches {
             return NONE;
         }
         lookAround();
-        int steps = paths.steps[row];
+        int steps = paths.stepsTo(row);
         return steps == NONE ? NOT_SO : steps;
     }
 
@@ -320,7 +320,7 @@ public final class LeanLatches {
         }
         lookAround();
         int row = paths.farthestRow();
-        return what == 0 ? paths.steps[row] : row;
+        return what == 0 ? paths.stepsTo(row) : row;
     }
 
     public int wide() {
@@ -1202,7 +1202,7 @@ public final class LeanLatches {
         private void look(State state, int at) {
             row = state.row;
             latch = at;
-            worn = at >= 0 && at < MOST_LATCHES ? state.worn[at] : 0;
+            worn = state.wornOf(at);
             seals = Integer.bitCount(state.sealed);
             tired = state.effort;
             minute = state.minute;
@@ -1361,6 +1361,16 @@ public final class LeanLatches {
             System.arraycopy(other.worn, 0, worn, 0, MOST_LATCHES);
         }
 
+        private int wornOf(int latch) {
+            return latch >= 0 && latch < MOST_LATCHES ? worn[latch] : 0;
+        }
+
+        private void wear(int latch, int times) {
+            if (latch >= 0 && latch < MOST_LATCHES) {
+                worn[latch] = times;
+            }
+        }
+
         private int wornInAll() {
             int sum = 0;
             for (int times : worn) {
@@ -1430,7 +1440,7 @@ public final class LeanLatches {
             long more = limited(worthOf(door, state, EFFORT_LAW, latch), 999, 1);
             state.row ^= 1 << latch;
             state.effort = (int) Math.min(99999, state.effort + more);
-            state.worn[latch] = Math.min(999, state.worn[latch] + 1);
+            state.wear(latch, Math.min(999, state.wornOf(latch) + 1));
             if (otherwise != UNSEALED) {
                 long sealing = worthOf(door, state, SEAL_LAW, latch);
                 long eating = limited(worthOf(door, state, EAT_LAW, latch), 100, door.rust);
@@ -1470,29 +1480,35 @@ public final class LeanLatches {
         }
     }
 
-    /** How it was ahead of the latest pushing, forcing, sealing by call. */
+    /**
+     * How it was ahead of the latest pushing, forcing, sealing by call. Such a call changes nothing but
+     * the ROW, what is SEALED, EFFORT, and how often its own LATCH is WORN, so only these are kept.
+     */
     private static final class Undos {
-        private final State[] before = new State[MOST_UNDONE];
+        private final int[] rows = new int[MOST_UNDONE];
+        private final int[] seals = new int[MOST_UNDONE];
+        private final int[] efforts = new int[MOST_UNDONE];
+        private final int[] latches = new int[MOST_UNDONE];
+        private final int[] timesWorn = new int[MOST_UNDONE];
         private int oldest;
         private int size;
-
-        private Undos() {
-            for (int i = 0; i < MOST_UNDONE; i++) {
-                before[i] = new State();
-            }
-        }
 
         private void clear() {
             oldest = 0;
             size = 0;
         }
 
-        private void remember(State state) {
+        private void remember(State state, int latch) {
             if (size == MOST_UNDONE) {
-                oldest = (oldest + 1) % MOST_UNDONE;
+                oldest = Math.floorMod(oldest + 1, MOST_UNDONE);
                 size--;
             }
-            before[(oldest + size) % MOST_UNDONE].take(state);
+            int at = Math.floorMod(oldest + size, MOST_UNDONE);
+            rows[at] = state.row;
+            seals[at] = state.sealed;
+            efforts[at] = state.effort;
+            latches[at] = latch;
+            timesWorn[at] = state.wornOf(latch);
             size++;
         }
 
@@ -1501,7 +1517,11 @@ public final class LeanLatches {
                 return NONE;
             }
             size--;
-            state.take(before[(oldest + size) % MOST_UNDONE]);
+            int at = Math.floorMod(oldest + size, MOST_UNDONE);
+            state.row = rows[at];
+            state.sealed = seals[at];
+            state.effort = efforts[at];
+            state.wear(latches[at], timesWorn[at]);
             return size;
         }
     }
@@ -1550,8 +1570,13 @@ public final class LeanLatches {
             return has(row) && (moves[row] >> latch & 1) != 0;
         }
 
+        /** By how few MOVES, as the latest spread found; NONE, if it can't be had. */
+        private int stepsTo(int row) {
+            return has(row) ? steps[row] : NONE;
+        }
+
         private boolean isHad(int row) {
-            return has(row) && steps[row] != NONE;
+            return stepsTo(row) != NONE;
         }
 
         /** Finds all ROWS that can be had from one, nearest first, and by how few MOVES each. */
@@ -1586,8 +1611,7 @@ public final class LeanLatches {
 
         /** Of a row of fewest MOVES: whether this MOVE may be one. */
         private boolean leadsOn(int row, int latch) {
-            int to = row ^ 1 << latch;
-            return isMovable(row, latch) && isHad(row) && has(to) && steps[to] == steps[row] + 1;
+            return isMovable(row, latch) && isHad(row) && stepsTo(row ^ 1 << latch) == stepsTo(row) + 1;
         }
 
         private int firstTo(int target) {
@@ -1613,7 +1637,7 @@ public final class LeanLatches {
         }
 
         private int waysTo(int target) {
-            if (!isHad(target)) {
+            if (!isHad(target) || !has(start)) {
                 return 0;
             }
             Arrays.fill(sums, 0);
@@ -1634,7 +1658,7 @@ public final class LeanLatches {
             int farthest = start;
             for (int row = 0; row < rows; row++) {
                 // Of several, the least has come first.
-                if (steps[row] > steps[farthest]) {
+                if (stepsTo(row) > stepsTo(farthest)) {
                     farthest = row;
                 }
             }
@@ -1648,7 +1672,7 @@ public final class LeanLatches {
             int width = 0;
             for (int i = 0; i < hadRows && i < MOST_ROWS; i++) {
                 spread(marks[i]);
-                width = Math.max(width, steps[farthestRow()]);
+                width = Math.max(width, stepsTo(farthestRow()));
             }
             return width;
         }
@@ -1680,14 +1704,14 @@ public final class LeanLatches {
                 return NONE;
             }
             // A ROW on each way is on any way of fewest MOVES: no other ones are tried.
-            int between = steps[target] - 1;
+            int between = Math.min(stepsTo(target) - 1, MOST_ROWS);
             int at = target;
             for (int i = between; i > 0; i--) {
                 at = oneBefore(at);
                 marks[i - 1] = at;
             }
             int left = k;
-            for (int i = 0; i < between && i < MOST_ROWS; i++) {
+            for (int i = 0; i < between; i++) {
                 bar(marks[i], 0, 0);
                 spread(now);
                 if (!isHad(target)) {
@@ -1728,7 +1752,7 @@ public final class LeanLatches {
         private int stepsToMove(int latch) {
             for (int i = 0; i < found && i < MOST_ROWS; i++) {
                 if (isMovable(order[i], latch)) {
-                    return steps[order[i]] + 1;
+                    return stepsTo(order[i]) + 1;
                 }
             }
             return NOT_SO;
@@ -1753,12 +1777,15 @@ public final class LeanLatches {
         /** The first LATCH by which who begins wins; NOT_SO, if he can't. */
         private int winningLatch(int now) {
             int winning = NOT_SO;
+            if (!has(now)) {
+                return winning;
+            }
             // By ROW: 1, if who is to MOVE there wins. Each MOVE up leads to a greater ROW.
             for (int row = rows - 1; row >= now; row--) {
                 winning = NOT_SO;
                 for (int latch = latches - 1; latch >= 0; latch--) {
                     int to = row | 1 << latch;
-                    if (to != row && isMovable(row, latch) && marks[to] == 0) {
+                    if (to != row && isMovable(row, latch) && has(to) && marks[to] == 0) {
                         winning = latch;
                     }
                 }
@@ -1769,6 +1796,9 @@ public final class LeanLatches {
 
         /** How likely a ROW is had by n drunken MOVES, of ALL_ALIKE to the n. */
         private long drunkTo(int now, int target, int n) {
+            if (!has(now) || !has(target)) {
+                return 0;
+            }
             Arrays.fill(sums, 0);
             sums[now] = 1;
             for (int i = 0; i < n; i++) {
@@ -1791,8 +1821,9 @@ public final class LeanLatches {
             }
             long each = sums[row] * (ALL_ALIKE / choices);
             for (int latch = 0; latch < latches; latch++) {
-                if (isMovable(row, latch)) {
-                    nextSums[row ^ 1 << latch] += each;
+                int to = row ^ 1 << latch;
+                if (isMovable(row, latch) && has(to)) {
+                    nextSums[to] += each;
                 }
             }
         }

@@ -1,4 +1,5 @@
 import java.io.IOException;
+import java.lang.reflect.Array;
 import java.lang.reflect.Constructor;
 import java.lang.reflect.Executable;
 import java.lang.reflect.Field;
@@ -25,11 +26,12 @@ public final class RulesTest {
         "boolean known(int)", "int fits(int)", "int ask(int,int)", "int chance(int,int,int)", "int tried(int,int,int)",
         "int undo()", "int keep()", "int back()", "int count(int)"};
 
-    public static void main(String[] args) throws IOException {
+    public static void main(String[] args) throws IOException, IllegalAccessException {
         face();
         classes();
         words();
         room();
+        roomOfOne();
         Bench.end("RulesTest");
     }
 
@@ -134,6 +136,31 @@ public final class RulesTest {
             made = bean.getThreadAllocatedBytes(thread) - before;
         }
         Bench.due("bytes made by 200 times all calls: " + made, made < 10000 ? 1 : 0, 1);
+    }
+
+    /** Some 600,000 objects and 7.3 million fields are there for all: one door takes little of it. */
+    private static void roomOfOne() throws IllegalAccessException {
+        List<Object> found = new ArrayList<>(List.of(new LeanLatches()));
+        int parts = 0;
+        for (int i = 0; i < found.size(); i++) {
+            Object at = found.get(i);
+            if (at.getClass().isArray()) {
+                parts += Array.getLength(at);
+                continue;
+            }
+            for (Field f : at.getClass().getDeclaredFields()) {
+                if (!Modifier.isStatic(f.getModifiers())) {
+                    parts++;
+                    f.setAccessible(true);
+                    Object part = f.getType().isPrimitive() ? null : f.get(at);
+                    if (part != null) {
+                        found.add(part);
+                    }
+                }
+            }
+        }
+        Bench.due("objects of a door: " + found.size(), found.size() <= 80 ? 1 : 0, 1);
+        Bench.due("fields and elements of a door: " + parts, parts <= 4000 ? 1 : 0, 1);
     }
 
     private static int callAll(LeanLatches x, int i) {
